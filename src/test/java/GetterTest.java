@@ -64,6 +64,8 @@ public final class GetterTest {
         Check.cellsAre("empty left side", x, -1);
         Check.putAll(x, RewriteAutomaton.OK, 8, 19);
         Check.cellsAre("half a left side", x, -1, 8, 19);
+        Check.due("cell(-2, 0) with an entry", x.cell(-2, 0), -1);
+        Check.due("cell(-1, -1) with an entry", x.cell(-1, -1), -1);
         Check.putAll(x, RewriteAutomaton.OK, 5, 18);
         Check.cellsAre("left side", x, -1, 8, 19, 5, 18);
         Check.putAll(x, RewriteAutomaton.OK, 9, 18);

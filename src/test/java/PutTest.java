@@ -171,6 +171,11 @@ public final class PutTest {
         refused(x, 4, RewriteAutomaton.FULL);
         Check.putAll(x, RewriteAutomaton.DONE, 0, 1, 2, 3, 0, 1);
         Check.termIs("the largest term", x, 12, 12, 8, 0, 1, 2, 3, 0, 1);
+        // The left side of a rule entered before gives the next entry no room.
+        Check.rule(x, 8, 16, 17, 16);
+        x.beginTerm();
+        Check.putAll(x, RewriteAutomaton.OK, 12, 12);
+        refused(x, 12, RewriteAutomaton.FULL);
     }
 
     private static void completedRule() {
