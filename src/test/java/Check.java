@@ -1,14 +1,22 @@
 /** What the tests share: comparing answers with those that are due, and entering rules and terms. */
 final class Check {
     private static int wrong = 0;
+    private static int sentences = 0;
+    private static String sentence = "";
 
     private Check() {
+    }
+
+    /** Names the sentence of the document that the calls from here on are about. */
+    static void sentence(String words) {
+        sentences++;
+        sentence = "\"" + words + "\": ";
     }
 
     static void due(String what, long got, long want) {
         if (got != want) {
             wrong++;
-            System.out.println(what + " answered " + got + ", due is " + want);
+            System.out.println(sentence + what + " answered " + got + ", due is " + want);
         }
     }
 
@@ -56,15 +64,25 @@ final class Check {
 
     /** Everything the getters tell, so that two snapshots show whether a call has changed anything. */
     static String snapshot(RewriteAutomaton x) {
+        StringBuilder seen = new StringBuilder(withoutEntry(x));
+        seen.append("\nmode ").append(x.mode()).append(", entry");
+        for (int i = -1; i <= RewriteAutomaton.MAX_TERM; i++) {
+            seen.append(' ').append(x.cell(-1, i));
+        }
+        return seen.toString();
+    }
+
+    /** What the getters tell of the completed rules, the current term and the counters. */
+    static String withoutEntry(RewriteAutomaton x) {
         StringBuilder seen = new StringBuilder();
-        seen.append(x.mode()).append('/').append(x.rules()).append('/').append(x.size());
-        seen.append('/').append(x.steps()).append('/').append(x.nextRedex());
+        seen.append("rules ").append(x.rules()).append(", steps ").append(x.steps());
+        seen.append(", nextRedex ").append(x.nextRedex()).append(", size ").append(x.size());
         for (int i = -1; i <= RewriteAutomaton.MAX_TERM; i++) {
             seen.append(' ').append(x.symbolAt(i)).append(',').append(x.ruleAt(i));
         }
-        for (int r = -2; r <= RewriteAutomaton.MAX_RULES; r++) {
-            seen.append('\n').append(x.used(r)).append(':');
-            for (int i = -1; i <= RewriteAutomaton.MAX_TERM; i++) {
+        for (int r = 0; r <= RewriteAutomaton.MAX_RULES; r++) {
+            seen.append("\nrule ").append(r).append(", used ").append(x.used(r)).append(':');
+            for (int i = -1; i <= RewriteAutomaton.LEFT_CELLS + RewriteAutomaton.RIGHT_CELLS; i++) {
                 seen.append(' ').append(x.cell(r, i));
             }
         }
@@ -74,7 +92,16 @@ final class Check {
     static void same(String what, String got, String want) {
         if (!got.equals(want)) {
             wrong++;
-            System.out.println(what + " changed what the getters tell, from\n" + want + "\nto\n" + got);
+            System.out.println(sentence + what + " changed what the getters tell");
+            printDifference(got.split("\n"), want.split("\n"));
+        }
+    }
+
+    private static void printDifference(String[] got, String[] want) {
+        for (int line = 0; line < got.length && line < want.length; line++) {
+            if (!got[line].equals(want[line])) {
+                System.out.println("  from " + want[line] + "\n  to   " + got[line]);
+            }
         }
     }
 
@@ -83,7 +110,8 @@ final class Check {
     }
 
     static void end() {
-        System.out.println(wrong == 0 ? "all answers are as due" : wrong + " answers are not as due");
+        System.out.println((sentences == 0 ? "" : sentences + " sentences: ")
+            + (wrong == 0 ? "all answers are as due" : wrong + " answers are not as due"));
         if (wrong != 0) {
             System.exit(1);
         }

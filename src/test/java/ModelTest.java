@@ -20,7 +20,8 @@ public final class ModelTest {
         }
         // A comparison that never sees one of these answers would prove little.
         for (int answer : new int[] {2, 3, 5, 6, 7}) {
-            Check.due("run() having answered " + answer + " at least 100 times", ANSWERS_OF_RUN[answer] >= 100 ? 1 : 0, 1);
+            Check.due("run() having answered " + answer + " at least 100 times",
+                ANSWERS_OF_RUN[answer] >= 100 ? 1 : 0, 1);
         }
         Check.end();
     }
