@@ -219,11 +219,19 @@ public final class WordsTest {
             x.beginTerm();
             Check.due("put(0), a whole term", x.put(0), RewriteAutomaton.DONE);
             x.beginRule();
-            Check.putAll(x, RewriteAutomaton.OK, Given.chain(12, 4, 16));
+            fillsUp(x, 12, 16, RewriteAutomaton.OK);
             Check.due("mode()", x.mode(), RewriteAutomaton.RIGHT);
-            Check.putAll(x, RewriteAutomaton.DONE, Given.chain(16, 4, 16));
-            Check.term(x, Given.chain(30, 4, 0));
+            fillsUp(x, 16, 16, RewriteAutomaton.DONE);
+            x.beginTerm();
+            fillsUp(x, 30, 0, RewriteAutomaton.DONE);
         }
+    }
+
+    /** What an earlier entry or side left behind would be seen in too little room, or in too much. */
+    private static void fillsUp(RewriteAutomaton x, int limit, int last, int answer) {
+        Check.putAll(x, RewriteAutomaton.OK, Given.chain(limit - 1, 4, 4));
+        Check.due("put(4) as cell " + limit, x.put(4), RewriteAutomaton.FULL);
+        Check.due("put(" + last + ") as cell " + limit, x.put(last), answer);
     }
 
     private static void refusedChangesNothing() {
